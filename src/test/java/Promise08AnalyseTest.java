@@ -1,0 +1,222 @@
+/** Promise 8: analyse. */
+final class Promise08AnalyseTest {
+    private static final Check CHECK = new Check();
+
+    public static void main(String[] args) {
+        wrongArguments();
+        heldAlready();
+        shortestBeatsLesser();
+        leastAmongShortest();
+        leastAcrossGoals();
+        revokeOpensTheWay();
+        reachedThroughASenior();
+        roleHeldByInheritanceMayBeAssigned();
+        userIsNotHisOwnAdmin();
+        adminsStayFixed();
+        unreachableClearsTheWitness();
+        longestPlan();
+        changesNothingElse();
+        CHECK.end();
+    }
+
+    private static String plan(AdminRoleAnalyser x) {
+        StringBuilder all = new StringBuilder().append(x.witnessLength()).append(':');
+        for (int k = 0; k < x.witnessLength(); k++) {
+            all.append(' ').append(x.witnessRule(k));
+        }
+        return all.toString();
+    }
+
+    private static AdminRoleAnalyser withAdmin(int roles) {
+        AdminRoleAnalyser x = new AdminRoleAnalyser(2, roles, 16);
+        x.setAssigned(0, 0, true);
+        return x;
+    }
+
+    private static void wrongArguments() {
+        AdminRoleAnalyser x = withAdmin(4);
+        x.addRule(1, 0, 1, 0);
+        int[] noUsers = {Integer.MIN_VALUE, -1, 2, 7, 8, Integer.MAX_VALUE};
+        int[] noRoles = {Integer.MIN_VALUE, -1, 4, 7, 8, 32, Integer.MAX_VALUE};
+        for (int round = 0; round < 3; round++) {
+            String before = Check.state(x);
+            for (int user : noUsers) {
+                CHECK.due("user " + user, -1, x.analyse(user, 1));
+            }
+            for (int role : noRoles) {
+                CHECK.due("role " + role, -1, x.analyse(1, role));
+            }
+            CHECK.same("state after refusals", before, Check.state(x));
+            x.analyse(1, round == 0 ? 1 : 2);
+        }
+    }
+
+    private static void heldAlready() {
+        AdminRoleAnalyser x = withAdmin(4);
+        x.addInheritance(3, 2);
+        x.addRule(1, 0, 2, 0);
+        x.setAssigned(1, 3, true);
+        CHECK.due("held by assignment", 1, x.analyse(1, 3));
+        CHECK.same("plan", "0:", plan(x));
+        CHECK.due("held by inheritance", 1, x.analyse(1, 2));
+        CHECK.same("plan", "0:", plan(x));
+        CHECK.due("of the admin himself", 1, x.analyse(0, 0));
+        CHECK.same("plan", "0:", plan(x));
+    }
+
+    private static void shortestBeatsLesser() {
+        AdminRoleAnalyser x = withAdmin(4);
+        x.addRule(1, 0, 1, 0);
+        x.addRule(1, 0, 2, Check.cond(2, 0));
+        x.addRule(1, 0, 3, Check.cond(4, 0));
+        x.addRule(1, 0, 2, 0);
+        CHECK.due("analyse", 1, x.analyse(1, 3));
+        CHECK.same("plan", "2: 3 2", plan(x));
+    }
+
+    private static void leastAmongShortest() {
+        AdminRoleAnalyser x = withAdmin(5);
+        x.addRule(1, 0, 4, Check.cond(8, 0));
+        x.addRule(1, 0, 4, Check.cond(12, 0));
+        x.addRule(1, 0, 3, 0);
+        x.addRule(1, 0, 3, 0);
+        x.addRule(1, 0, 2, 0);
+        CHECK.due("analyse", 1, x.analyse(1, 4));
+        CHECK.same("plan", "2: 2 0", plan(x));
+        AdminRoleAnalyser y = withAdmin(5);
+        y.addRule(1, 0, 3, 0);
+        y.addRule(1, 0, 2, 0);
+        y.addRule(1, 0, 1, 0);
+        y.addRule(1, 0, 4, Check.cond(2 + 4 + 8, 0));
+        CHECK.due("any order would do", 1, y.analyse(1, 4));
+        CHECK.same("plan", "4: 0 1 2 3", plan(y));
+    }
+
+    /** Two end sets hold the role: the plan with the lesser first rule counts, not the lesser last one. */
+    private static void leastAcrossGoals() {
+        AdminRoleAnalyser x = withAdmin(5);
+        x.addRule(1, 0, 4, Check.cond(4, 0));
+        x.addRule(1, 0, 1, 0);
+        x.addRule(1, 0, 2, 0);
+        x.addRule(1, 0, 3, Check.cond(2, 0));
+        x.addInheritance(3, 4);
+        CHECK.due("analyse", 1, x.analyse(1, 4));
+        CHECK.same("plan", "2: 1 3", plan(x));
+    }
+
+    private static void revokeOpensTheWay() {
+        AdminRoleAnalyser x = withAdmin(4);
+        x.addRule(1, 0, 2, Check.cond(0, 8));
+        x.addInheritance(1, 3);
+        x.setAssigned(1, 1, true);
+        CHECK.due("neg is held by inheritance", 2, x.analyse(1, 2));
+        x.addRule(2, 0, 3, 0);
+        CHECK.due("3 is not assigned", 2, x.analyse(1, 2));
+        x.addRule(2, 0, 1, 0);
+        CHECK.due("analyse", 1, x.analyse(1, 2));
+        CHECK.same("plan", "2: 2 0", plan(x));
+    }
+
+    private static void reachedThroughASenior() {
+        AdminRoleAnalyser x = withAdmin(4);
+        x.addInheritance(3, 2);
+        x.addInheritance(2, 1);
+        x.addRule(1, 0, 3, 0);
+        CHECK.due("analyse", 1, x.analyse(1, 1));
+        CHECK.same("plan", "1: 0", plan(x));
+    }
+
+    private static void roleHeldByInheritanceMayBeAssigned() {
+        AdminRoleAnalyser x = withAdmin(5);
+        x.addInheritance(3, 2);
+        x.setAssigned(1, 3, true);
+        x.addRule(2, 0, 3, 0);
+        x.addRule(1, 0, 4, Check.cond(4, 8));
+        x.addRule(1, 0, 2, 0);
+        CHECK.due("in either order", 1, x.analyse(1, 4));
+        CHECK.same("plan", "3: 0 2 1", plan(x));
+        AdminRoleAnalyser y = withAdmin(5);
+        y.addInheritance(3, 2);
+        y.setAssigned(1, 3, true);
+        y.addRule(2, 0, 3, 0);
+        y.addRule(1, 0, 4, Check.cond(4, 8));
+        y.addRule(1, 0, 2, Check.cond(8, 0));
+        CHECK.due("only while 3 is held", 1, y.analyse(1, 4));
+        CHECK.same("plan", "3: 2 0 1", plan(y));
+    }
+
+    private static void userIsNotHisOwnAdmin() {
+        AdminRoleAnalyser x = withAdmin(3);
+        x.addRule(1, 0, 1, 0);
+        x.addRule(1, 1, 2, 0);
+        CHECK.due("the only admin", 2, x.analyse(0, 1));
+        CHECK.due("the other user", 1, x.analyse(1, 1));
+        CHECK.due("no one holds admin role 1", 2, x.analyse(1, 2));
+        AdminRoleAnalyser alone = new AdminRoleAnalyser(1, 2, 2);
+        alone.setAssigned(0, 0, true);
+        alone.addRule(1, 0, 1, 0);
+        CHECK.due("a single user", 2, alone.analyse(0, 1));
+        CHECK.due("what he holds", 1, alone.analyse(0, 0));
+    }
+
+    /** User 1 could make user 0 an admin, but a plan for user 1 touches user 1 alone. */
+    private static void adminsStayFixed() {
+        AdminRoleAnalyser x = new AdminRoleAnalyser(2, 4, 4);
+        x.setAssigned(1, 1, true);
+        x.addRule(1, 1, 0, 0);
+        x.addRule(1, 0, 2, 0);
+        CHECK.due("user 0 can become an admin", 1, x.analyse(0, 0));
+        CHECK.due("but is none now", 2, x.analyse(1, 2));
+        CHECK.due("make him one", 0, x.act(1, 0, 0));
+        CHECK.due("now", 1, x.analyse(1, 2));
+    }
+
+    private static void unreachableClearsTheWitness() {
+        AdminRoleAnalyser x = withAdmin(4);
+        x.addRule(1, 0, 1, 0);
+        CHECK.due("analyse", 1, x.analyse(1, 1));
+        CHECK.same("plan", "1: 0", plan(x));
+        CHECK.due("analyse", 2, x.analyse(1, 3));
+        CHECK.same("plan", "-1:", plan(x));
+        CHECK.due("witnessRule(0)", -1, x.witnessRule(0));
+        CHECK.due("witnessAdmin(0)", -1, x.witnessAdmin(0));
+    }
+
+    /** A Gray code: role r moves only while, of the lesser roles, just role r - 1 is held. */
+    private static void longestPlan() {
+        AdminRoleAnalyser x = withAdmin(8);
+        for (int role = 0; role < 8; role++) {
+            int positive = role == 0 ? 0 : 1 << (role - 1);
+            int negative = ((1 << role) - 1) & ~positive;
+            x.addRule(1, 0, role, Check.cond(positive, negative));
+            x.addRule(2, 0, role, Check.cond(positive, negative));
+        }
+        for (int role = 0; role < 8; role++) {
+            CHECK.due("analyse " + role, 1, x.analyse(1, role));
+            CHECK.due("length " + role, 1 << role, x.witnessLength());
+        }
+        CHECK.due("reachable", 255, x.reachableRoles(1));
+        for (int k = 0; k < 128; k++) {
+            CHECK.due("role 7 before step " + k, 0, x.effectiveRoles(1) & 128);
+            CHECK.due("step " + k, 0, x.act(x.witnessAdmin(k), 1, x.witnessRule(k)));
+        }
+        CHECK.due("role 7 at the end", 128 + 64, x.effectiveRoles(1));
+        CHECK.due("witnessRule(127)", 14, x.witnessRule(127));
+        CHECK.due("witnessRule(128)", -1, x.witnessRule(128));
+        CHECK.due("witnessAdmin(128)", -1, x.witnessAdmin(128));
+    }
+
+    private static void changesNothingElse() {
+        AdminRoleAnalyser x = withAdmin(4);
+        x.addInheritance(2, 1);
+        x.grantPermission(1, 1, true);
+        x.addRule(1, 0, 2, 0);
+        x.addRule(2, 0, 2, 0);
+        x.analyse(1, 2);
+        String before = Check.state(x);
+        CHECK.due("another question", 2, x.analyse(0, 3));
+        CHECK.due("the first again", 1, x.analyse(1, 2));
+        CHECK.same("state", before, Check.state(x));
+        CHECK.due("next rule", 2, x.addRule(1, 0, 2, 0));
+    }
+}
