@@ -75,7 +75,8 @@ final class ModelTest {
         int rule = near(m.capacity);
         boolean on = below(3) > 0;
         switch (below(14)) {
-            case 0, 1 -> CHECK.due(at + "addInheritance", m.addInheritance(role, junior), x.addInheritance(role, junior));
+            case 0, 1 -> CHECK.due(at + "addInheritance",
+                m.addInheritance(role, junior), x.addInheritance(role, junior));
             case 2 -> CHECK.due(at + "removeInheritance",
                 m.removeInheritance(role, junior), x.removeInheritance(role, junior));
             case 3 -> CHECK.due(at + "grantPermission",

@@ -157,6 +157,13 @@ final class Promise08AnalyseTest {
         alone.addRule(1, 0, 1, 0);
         CHECK.due("a single user", 2, alone.analyse(0, 1));
         CHECK.due("what he holds", 1, alone.analyse(0, 0));
+        AdminRoleAnalyser full = new AdminRoleAnalyser(8, 8, 16);
+        full.addRule(1, 0, 1, 0);
+        CHECK.due("eight users, none of them an admin", 2, full.analyse(7, 1));
+        full.setAssigned(7, 0, true);
+        CHECK.due("the last is the admin", 2, full.analyse(7, 1));
+        CHECK.due("of all others", 1, full.analyse(0, 1));
+        CHECK.due("witnessAdmin(0)", 7, full.witnessAdmin(0));
     }
 
     /** User 1 could make user 0 an admin, but a plan for user 1 touches user 1 alone. */
