@@ -6,7 +6,7 @@ final class ModelTest {
     private static final Check CHECK = new Check();
     private static final int RUNS = 400;
     private static final int CALLS = 120;
-    private static long seed = 20261115L;
+    private static final Mix MIX = new Mix(20261115L);
     private static int longest = 0;
 
     public static void main(String[] args) {
@@ -21,14 +21,9 @@ final class ModelTest {
         CHECK.end();
     }
 
-    private static int below(int bound) {
-        seed = seed * 6364136223846793005L + 1442695040888963407L;
-        return (int) ((seed >>> 33) % bound);
-    }
-
     /** Mostly a number of the range, now and then one beside it or far from it. */
     private static int near(int bound) {
-        int pick = below(40);
+        int pick = MIX.below(40);
         if (pick == 0) {
             return -1;
         }
@@ -36,28 +31,28 @@ final class ModelTest {
             return bound;
         }
         if (pick == 2) {
-            return below(2) == 0 ? Integer.MIN_VALUE + below(9) : Integer.MAX_VALUE - below(9);
+            return MIX.below(2) == 0 ? Integer.MIN_VALUE + MIX.below(9) : Integer.MAX_VALUE - MIX.below(9);
         }
-        return below(bound);
+        return MIX.below(bound);
     }
 
     private static int someCond(int roles) {
-        int pick = below(12);
+        int pick = MIX.below(12);
         if (pick == 0) {
-            return below(1 << 17);
+            return MIX.below(1 << 17);
         }
         if (pick == 1) {
-            return -1 - below(70000);
+            return -1 - MIX.below(70000);
         }
-        int positive = below(1 << roles) & below(1 << roles) & below(1 << roles);
-        int negative = below(1 << roles) & below(1 << roles) & ~positive;
+        int positive = MIX.below(1 << roles) & MIX.below(1 << roles) & MIX.below(1 << roles);
+        int negative = MIX.below(1 << roles) & MIX.below(1 << roles) & ~positive;
         return Check.cond(positive, negative);
     }
 
     private static void mixedRun(int run) {
-        int users = below(11) - 1;
-        int roles = below(run % 8 == 0 ? 11 : 7) - 1;
-        int rules = below(20) - 1;
+        int users = MIX.below(11) - 1;
+        int roles = MIX.below(run % 8 == 0 ? 11 : 7) - 1;
+        int rules = MIX.below(20) - 1;
         AdminRoleAnalyser x = new AdminRoleAnalyser(users, roles, rules);
         Model m = new Model(users, roles, rules);
         for (int call = 0; call < CALLS; call++) {
@@ -73,8 +68,8 @@ final class ModelTest {
         int junior = near(m.roles);
         int perm = near(16);
         int rule = near(m.capacity);
-        boolean on = below(3) > 0;
-        switch (below(14)) {
+        boolean on = MIX.below(3) > 0;
+        switch (MIX.below(14)) {
             case 0, 1 -> CHECK.due(at + "addInheritance",
                 m.addInheritance(role, junior), x.addInheritance(role, junior));
             case 2 -> CHECK.due(at + "removeInheritance",
@@ -82,7 +77,7 @@ final class ModelTest {
             case 3 -> CHECK.due(at + "grantPermission",
                 m.grantPermission(role, perm, on), x.grantPermission(role, perm, on));
             case 4, 5 -> {
-                int kind = below(20) == 0 ? below(6) - 1 : 1 + below(2);
+                int kind = MIX.below(20) == 0 ? MIX.below(6) - 1 : 1 + MIX.below(2);
                 int cond = someCond(m.roles);
                 CHECK.due(at + "addRule", m.addRule(kind, role, junior, cond), x.addRule(kind, role, junior, cond));
             }
@@ -126,8 +121,8 @@ final class ModelTest {
     }
 
     private static int randomCond(int roles) {
-        int positive = 1 << below(roles);
-        int negative = (1 << below(roles) | 1 << below(roles)) & ~positive;
+        int positive = 1 << MIX.below(roles);
+        int negative = (1 << MIX.below(roles) | 1 << MIX.below(roles)) & ~positive;
         return Check.cond(positive, negative);
     }
 
@@ -145,7 +140,7 @@ final class ModelTest {
 
     /** Full rule lists, a Gray code with faults in it among them, so that long plans are common. */
     private static void plannedRun(int run) {
-        int roles = run % 40 == 0 ? 8 : 4 + below(3);
+        int roles = run % 40 == 0 ? 8 : 4 + MIX.below(3);
         AdminRoleAnalyser x = new AdminRoleAnalyser(3, roles, 16);
         Model m = new Model(3, roles, 16);
         m.setAssigned(0, 0, true);
@@ -153,17 +148,17 @@ final class ModelTest {
         m.setAssigned(2, 1, true);
         x.setAssigned(2, 1, true);
         for (int edge = 0; edge < 2; edge++) {
-            int senior = below(roles);
-            int junior = below(roles);
+            int senior = MIX.below(roles);
+            int junior = MIX.below(roles);
             m.addInheritance(senior, junior);
             x.addInheritance(senior, junior);
         }
-        int turn = below(roles);
-        int skip = below(4 * roles);
+        int turn = MIX.below(roles);
+        int skip = MIX.below(4 * roles);
         for (int rule = 0; rule < 16; rule++) {
-            int kind = 1 + below(2);
-            int admin = below(run % 2 == 0 ? 2 : 3);
-            int target = below(roles);
+            int kind = 1 + MIX.below(2);
+            int admin = MIX.below(run % 2 == 0 ? 2 : 3);
+            int target = MIX.below(roles);
             int cond = randomCond(roles);
             int place = (rule * 7 + run) % 16;
             if (place / 2 < roles && place != skip) {
@@ -179,7 +174,7 @@ final class ModelTest {
             CHECK.due(at + "analyse", m.analyse(1, role), x.analyse(1, role));
             compareWitness(at, x, m);
         }
-        replay("planned run " + run + ": ", x, below(roles));
+        replay("planned run " + run + ": ", x, MIX.below(roles));
     }
 
     private static void replay(String at, AdminRoleAnalyser x, int role) {
