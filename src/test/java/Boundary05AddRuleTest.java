@@ -1,3 +1,5 @@
+import java.util.Map;
+
 /** Promise 5, sentence by sentence: the full list, every wrong argument, and the answered index. */
 final class Boundary05AddRuleTest {
     private static final Check CHECK = new Check();
@@ -185,17 +187,15 @@ final class Boundary05AddRuleTest {
 
     private static void onlyTheListGrows() {
         CHECK.sentence("Only the rule list grows.");
-        Probe before = Probe.of(Sample.of(4, 8, 9));
+        Map<String, String> before = Probe.of(Sample.of(4, 8, 9));
+        int kept = before.get("rules").lastIndexOf(']') + 1;
         for (int i = 0; i < 64; i++) {
             AdminRoleAnalyser x = Sample.of(4, 8, 9);
             add(x, 1 + i % 2, i / 8, i % 8, Check.cond(i, 128), 8);
-            Probe after = Probe.of(x);
-            CHECK.same("edges", before.edges(), after.edges());
-            CHECK.same("explicit", before.explicit(), after.explicit());
-            CHECK.same("grants", before.grants(), after.grants());
-            CHECK.same("witness", before.witness(), after.witness());
-            int kept = before.rules().lastIndexOf(']') + 1;
-            CHECK.same("earlier rules", before.rules().substring(0, kept), after.rules().substring(0, kept));
+            Map<String, String> after = Probe.of(x);
+            CHECK.sameBut("rules", before, after);
+            CHECK.same("earlier rules", before.get("rules").substring(0, kept),
+                after.get("rules").substring(0, kept));
         }
     }
 }

@@ -178,12 +178,7 @@ final class Boundary08AnalyseTest {
                     x.analyse(user, role);
                 }
             }
-            Probe before = Probe.of(Sample.notAnalysed(users, 8, 16));
-            Probe after = Probe.of(x);
-            CHECK.same("the hierarchy", before.edges(), after.edges());
-            CHECK.same("permissions", before.grants(), after.grants());
-            CHECK.same("assignments", before.explicit(), after.explicit());
-            CHECK.same("rules", before.rules(), after.rules());
+            CHECK.sameBut("witness", Probe.of(Sample.notAnalysed(users, 8, 16)), Probe.of(x));
         }
     }
 

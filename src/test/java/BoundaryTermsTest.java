@@ -162,7 +162,7 @@ final class BoundaryTermsTest {
                 }
             }
             CHECK.same("what run " + number + " tells", Check.state(y), Check.state(x));
-            CHECK.same("what run " + number + " leaves", Probe.of(y).toString(), Probe.of(x).toString());
+            CHECK.sameBut("none", Probe.of(y), Probe.of(x));
         }
     }
 

@@ -1,27 +1,27 @@
+import java.util.LinkedHashMap;
+import java.util.Map;
+
 /**
- * All of an object's state in parts. But for the witness they are read from the answers of calls
- * that change the state, so the object is used up.
+ * All of an object's state, by the names of its parts: witness, edges, grants, explicit, rules.
+ * But for the witness they are read from the answers of calls that change the state, so the
+ * object is used up.
  */
-record Probe(String witness, String edges, String grants, String explicit, String rules) {
-    static Probe of(AdminRoleAnalyser x) {
-        String witness = Check.witness(x);
-        return read(x, witness);
+final class Probe {
+    static Map<String, String> of(AdminRoleAnalyser x) {
+        Map<String, String> parts = new LinkedHashMap<>();
+        parts.put("witness", Check.witness(x));
+        parts.putAll(withoutWitness(x));
+        return parts;
     }
 
     /** For an object that is to meet no getter, as only such a one tells what getters change. */
-    static Probe withoutWitness(AdminRoleAnalyser x) {
-        return read(x, "");
-    }
-
-    private static Probe read(AdminRoleAnalyser x, String witness) {
-        String edges = edges(x);
-        String grants = grants(x);
-        StringBuilder explicit = new StringBuilder("explicit");
-        for (int user = 0; user < 8; user++) {
-            explicit.append(' ').append(take(x, user));
-        }
-        String rules = rules(x);
-        return new Probe(witness, edges, grants, explicit.toString(), rules);
+    static Map<String, String> withoutWitness(AdminRoleAnalyser x) {
+        Map<String, String> parts = new LinkedHashMap<>();
+        parts.put("edges", edges(x));
+        parts.put("grants", grants(x));
+        parts.put("explicit", explicit(x));
+        parts.put("rules", rules(x));
+        return parts;
     }
 
     /** Users, roles and rule capacity; the room for rules is filled by it. */
@@ -59,7 +59,7 @@ record Probe(String witness, String edges, String grants, String explicit, Strin
     }
 
     private static String edges(AdminRoleAnalyser x) {
-        StringBuilder all = new StringBuilder("edges");
+        StringBuilder all = new StringBuilder();
         for (int senior = 0; senior < 8; senior++) {
             for (int junior = 0; junior < 8; junior++) {
                 if (x.removeInheritance(senior, junior) == Check.OK) {
@@ -71,13 +71,21 @@ record Probe(String witness, String edges, String grants, String explicit, Strin
     }
 
     private static String grants(AdminRoleAnalyser x) {
-        StringBuilder all = new StringBuilder("grants");
+        StringBuilder all = new StringBuilder();
         for (int role = 0; role < 8; role++) {
             for (int perm = 0; perm < 16; perm++) {
                 if (x.grantPermission(role, perm, false) == Check.OK) {
                     all.append(' ').append(role).append(':').append(perm);
                 }
             }
+        }
+        return all.toString();
+    }
+
+    private static String explicit(AdminRoleAnalyser x) {
+        StringBuilder all = new StringBuilder();
+        for (int user = 0; user < 8; user++) {
+            all.append(' ').append(take(x, user));
         }
         return all.toString();
     }
@@ -96,7 +104,7 @@ record Probe(String witness, String edges, String grants, String explicit, Strin
     }
 
     private static String rules(AdminRoleAnalyser x) {
-        StringBuilder all = new StringBuilder("rules");
+        StringBuilder all = new StringBuilder();
         int count = ruleCount(x);
         for (int rule = 0; rule < count; rule++) {
             all.append(" [").append(rule).append(parts(x, rule)).append(']');

@@ -3,30 +3,10 @@ final class Promise03RemoveInheritanceTest {
     private static final Check CHECK = new Check();
 
     public static void main(String[] args) {
-        refusals();
         oneEdgeGoes();
         diamondKeepsTheJunior();
         cycleBecomesPossible();
         CHECK.end();
-    }
-
-    private static void refusals() {
-        AdminRoleAnalyser x = new AdminRoleAnalyser(2, 4, 1);
-        x.addInheritance(2, 1);
-        x.addInheritance(1, 0);
-        String before = Check.state(x);
-        int[] outside = {Integer.MIN_VALUE, -1, 4, 7, 32, 34, Integer.MAX_VALUE};
-        for (int role : outside) {
-            CHECK.due("removeInheritance(" + role + ", 1)", -1, x.removeInheritance(role, 1));
-            CHECK.due("removeInheritance(2, " + role + ")", -1, x.removeInheritance(2, role));
-            CHECK.due("removeInheritance twice " + role, -1, x.removeInheritance(role, role));
-        }
-        for (int role = 0; role < 4; role++) {
-            CHECK.due("removeInheritance of itself " + role, -3, x.removeInheritance(role, role));
-        }
-        CHECK.due("the other way round", -3, x.removeInheritance(1, 2));
-        CHECK.due("known through 1 alone", -3, x.removeInheritance(2, 0));
-        CHECK.same("state after refusals", before, Check.state(x));
     }
 
     private static void oneEdgeGoes() {

@@ -3,28 +3,9 @@ final class Promise04GrantPermissionTest {
     private static final Check CHECK = new Check();
 
     public static void main(String[] args) {
-        refusals();
         everyRoleAndPermission();
         nothingElseChanges();
         CHECK.end();
-    }
-
-    private static void refusals() {
-        AdminRoleAnalyser x = new AdminRoleAnalyser(1, 3, 1);
-        x.setAssigned(0, 0, true);
-        String before = Check.state(x);
-        int[] noRoles = {Integer.MIN_VALUE, -1, 3, 7, 8, 32, Integer.MAX_VALUE};
-        int[] noPerms = {Integer.MIN_VALUE, -1, 16, 17, 31, 32, Integer.MAX_VALUE};
-        for (int role : noRoles) {
-            CHECK.due("role " + role, -1, x.grantPermission(role, 0, true));
-            CHECK.due("role " + role + " off", -1, x.grantPermission(role, 0, false));
-        }
-        for (int perm : noPerms) {
-            CHECK.due("perm " + perm, -1, x.grantPermission(0, perm, true));
-            CHECK.due("perm " + perm + " off", -1, x.grantPermission(0, perm, false));
-        }
-        CHECK.due("both outside", -1, x.grantPermission(-1, 16, true));
-        CHECK.same("state after refusals", before, Check.state(x));
     }
 
     private static void everyRoleAndPermission() {

@@ -3,31 +3,10 @@ final class Promise15HasPermissionTest {
     private static final Check CHECK = new Check();
 
     public static void main(String[] args) {
-        outside();
         everyRoleAndPermission();
         throughInheritance();
         anyRoleWillDo();
         CHECK.end();
-    }
-
-    private static void outside() {
-        AdminRoleAnalyser x = new AdminRoleAnalyser(2, 2, 1);
-        for (int user = 0; user < 2; user++) {
-            x.setAssigned(user, 0, true);
-        }
-        for (int perm = 0; perm < 16; perm++) {
-            x.grantPermission(0, perm, true);
-        }
-        int[] noUsers = {Integer.MIN_VALUE, -1, 2, 3, 7, 8, 9, Integer.MAX_VALUE};
-        int[] noPerms = {Integer.MIN_VALUE, -32, -1, 16, 17, 31, 32, 33, Integer.MAX_VALUE};
-        for (int user : noUsers) {
-            CHECK.due("user " + user, false, x.hasPermission(user, 0));
-        }
-        for (int perm : noPerms) {
-            CHECK.due("perm " + perm, false, x.hasPermission(0, perm));
-            CHECK.due("both outside " + perm, false, x.hasPermission(-1, perm));
-        }
-        CHECK.due("the last of both", true, x.hasPermission(1, 15));
     }
 
     private static void everyRoleAndPermission() {
