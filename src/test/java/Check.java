@@ -77,7 +77,10 @@ final class Check {
 
     /** A sentence without a single answer looked at is not tested. */
     private void endSentence() {
-        if (!sentence.isEmpty() && looked == 0) {
+        if (sentence.isEmpty()) {
+            return;
+        }
+        if (looked == 0) {
             tell("no answer was looked at");
         }
         if (told > MOST_TOLD) {
